@@ -40,7 +40,7 @@ public final class ModelTest {
                 oneRun(i);
             }
         }
-        plansHadAllAnswers();
+        lotReachesRareAnswers();
         calls.end();
     }
 
@@ -98,15 +98,15 @@ public final class ModelTest {
                 answer(run, "wipe");
             } else {
                 boolean fromFirst = lot.nextInt(4) == 0;
-                answer(run, "plan", fromFirst ? 0 : lot.nextInt(x.many(0)), fromFirst ? x.many(0) - 1 : lot.nextInt(x.many(0)));
+                answer(run, "plan", fromFirst ? 0 : lot.nextInt(model.many(0)), fromFirst ? model.many(0) - 1 : lot.nextInt(model.many(0)));
             }
             appendSteps(run);
-            int scene = lot.nextInt(x.many(0));
+            int scene = lot.nextInt(model.many(0));
             for (int what = 0; what < 7; what++) {
                 answer(run, "judge", scene, what);
             }
-            for (int what = 0; what < 3 && x.many(3) > 0; what++) {
-                answer(run, "stepAt", lot.nextInt(x.many(3)), what);
+            for (int what = 0; what < 3 && model.many(3) > 0; what++) {
+                answer(run, "stepAt", lot.nextInt(model.many(3)), what);
             }
         }
     }
@@ -115,18 +115,18 @@ public final class ModelTest {
     private void chainScenes(int run, boolean longChain) {
         answer(run, "scene", 1 + lot.nextInt(2), lot.nextInt(3), lot.nextInt(2), lot.nextInt(2));
         for (int i = 0; i < 60; i++) {
-            int last = x.many(0) - 1;
+            int last = model.many(0) - 1;
             int base = longChain || lot.nextBoolean() ? last : lot.nextInt(last + 1);
             int changed = lot.nextBoolean() ? 1 : lot.nextInt(4);
             Object[] levels = new Object[4];
             for (int s = 0; s < 4; s++) {
-                levels[s] = s == changed ? Math.max(0, lot.nextInt(6) - 2) : x.levelIn(base, s);
+                levels[s] = s == changed ? Math.max(0, lot.nextInt(6) - 2) : model.levelIn(base, s);
             }
             boolean apart = true;
             for (int c = 0; c < last; c++) {
                 int differing = 0;
                 for (int s = 0; s < 4; s++) {
-                    differing += levels[s].equals(x.levelIn(c, s)) ? 0 : 1;
+                    differing += levels[s].equals(model.levelIn(c, s)) ? 0 : 1;
                 }
                 apart &= differing > 1;
             }
@@ -139,14 +139,14 @@ public final class ModelTest {
     private void appendSteps(int run) {
         int more = lot.nextInt(lot.nextInt(4) == 0 ? 45 : 8);
         for (int i = 0; i < more; i++) {
-            int scene = lot.nextInt(x.many(0));
+            int scene = lot.nextInt(model.many(0));
             int supply = lot.nextInt(4);
             switch (lot.nextInt(5)) {
-                case 0: answer(run, "step", 4, supply, x.levelIn(scene, supply)); break;
-                case 1: answer(run, "step", lot.nextInt(2), lot.nextInt(Math.max(1, x.many(1))), 0); break;
+                case 0: answer(run, "step", 4, supply, model.levelIn(scene, supply)); break;
+                case 1: answer(run, "step", lot.nextInt(2), lot.nextInt(Math.max(1, model.many(1))), 0); break;
                 case 2: answer(run, "step", 2, lot.nextInt(6), 0); break;
                 case 3: answer(run, "step", 3, lot.nextInt(6), 0); break;
-                default: answer(run, "step", 0, lot.nextInt(Math.max(1, x.many(1))), 0); break;
+                default: answer(run, "step", 0, lot.nextInt(Math.max(1, model.many(1))), 0); break;
             }
         }
     }
@@ -214,7 +214,7 @@ public final class ModelTest {
             case "key0": return lot.nextInt(128);
             case "stride2": case "many0": return lot.nextInt(8);
             case "judge0": case "plan0": case "plan1": case "stride0": case "stride1": case "levelIn0": case "fault1":
-                return lot.nextInt(Math.max(1, x.many(0)));
+                return lot.nextInt(Math.max(1, model.many(0)));
             default: return lot.nextInt(4);
         }
     }
@@ -230,7 +230,7 @@ public final class ModelTest {
     }
 
     /** The lot is worth something only if it reaches the rare answers too. */
-    private void plansHadAllAnswers() {
+    private void lotReachesRareAnswers() {
         String[] rare = {"plan:-4", "plan:-3", "judge1:1", "judge1:2", "judge1:3", "judge1:4", "judge1:5", "judge1:6",
             "judge1:-9", "way:-3", "way:-9", "stride:-9", "step:-4", "net:-4", "scene:-4", "key:-4", "line:997", "line:1001"};
         for (String answer : rare) {
