@@ -38,17 +38,49 @@ final class Calls {
         }
     }
 
-    private void one(SleepingRooms x, String name, String call) {
-        Matcher line = LINE.matcher(call);
-        if (line.matches()) {
-            due(name, call, typed(x, line.group(1)), number(line.group(2)));
-            return;
+    private void one(SleepingRooms x, String name, String text) {
+        Call call = Call.of(text);
+        due(name, text, call.made(x), call.due);
+    }
+
+    /** One call with the answer that is due; or a line that is typed, which has no method. */
+    static final class Call {
+        final String method;
+        final String line;
+        final int due;
+        private final Object[] arguments;
+
+        private Call(String method, Object[] arguments, String line, int due) {
+            this.method = method;
+            this.arguments = arguments;
+            this.line = line;
+            this.due = due;
         }
-        Matcher plain = CALL.matcher(call);
-        if (!plain.matches()) {
-            throw new IllegalStateException("not a call: " + call);
+
+        static Call of(String text) {
+            Matcher line = LINE.matcher(text);
+            if (line.matches()) {
+                return new Call(null, null, line.group(1), number(line.group(2)));
+            }
+            Matcher plain = CALL.matcher(text);
+            if (!plain.matches()) {
+                throw new IllegalStateException("not a call: " + text);
+            }
+            return new Call(plain.group(1), numbers(plain.group(2)), null, number(plain.group(3)));
         }
-        due(name, call, ask(x, plain.group(1), numbers(plain.group(2))), number(plain.group(3)));
+
+        boolean isTyped() {
+            return line != null;
+        }
+
+        /** How many calls of the object it takes: a typed line takes blank, its keys, and line. */
+        int count() {
+            return isTyped() ? line.length() + 2 : 1;
+        }
+
+        int made(SleepingRooms x) {
+            return isTyped() ? typed(x, line) : ask(x, method, arguments);
+        }
     }
 
     void due(String name, String call, int got, int want) {
@@ -64,11 +96,15 @@ final class Calls {
     }
 
     static int typed(SleepingRooms x, String text) {
+        type(x, text);
+        return x.line();
+    }
+
+    static void type(SleepingRooms x, String text) {
         x.blank();
         for (char code : text.toCharArray()) {
             x.key(code);
         }
-        return x.line();
     }
 
     static int ask(Object target, String method, Object... arguments) {
@@ -109,7 +145,7 @@ final class Calls {
         return values;
     }
 
-    private static int number(String word) {
+    static int number(String word) {
         switch (word) {
             case "UNKNOWN": return SleepingRooms.UNKNOWN;
             case "OUTSIDE": return SleepingRooms.OUTSIDE;
