@@ -5,6 +5,9 @@ import java.util.List;
 final class Sentences {
     private static final int CALLS_OF_AN_OBJECT = 512;
 
+    /** How many calls {@link #usedAndMadeAnew} makes. */
+    private static final int COST_OF_USE = 149;
+
     private final Calls calls;
     private final Document document;
 
@@ -17,16 +20,54 @@ final class Sentences {
     void says(int promise, String sentence, String... rows) {
         String name = promise + " \"" + sentence + "\"";
         calls.holds(name + " stands in the document", document.says(promise, sentence));
-        SleepingRooms x = new SleepingRooms();
+        List<String> texts = Rows.all(rows);
         List<Calls.Call> run = new ArrayList<>();
-        int made = 0;
-        for (String row : Rows.all(rows)) {
-            Calls.Call call = Calls.Call.of(row);
-            calls.on(x, name, row);
+        int count = 0;
+        for (String text : texts) {
+            Calls.Call call = Calls.Call.of(text);
             run.add(call);
-            made += call.count();
+            count += call.count();
         }
-        calls.holds(name + " has " + made + " calls, too many", made + Twins.COST_OF_A_LOOK <= CALLS_OF_AN_OBJECT);
+        calls.holds(name + " has " + count + " calls, too many", count + Twins.COST_OF_A_LOOK <= CALLS_OF_AN_OBJECT);
+        made(new SleepingRooms(), name, texts);
+        if (count + COST_OF_USE <= CALLS_OF_AN_OBJECT) {
+            made(usedAndMadeAnew(), name + ", after anew (promise 10)", texts);
+        }
         Twins.compare(calls, name, run);
+    }
+
+    private void made(SleepingRooms x, String name, List<String> texts) {
+        for (String text : texts) {
+            calls.on(x, name, text);
+        }
+    }
+
+    /** An object that was full of everything must answer like a new one. */
+    private static SleepingRooms usedAndMadeAnew() {
+        SleepingRooms x = new SleepingRooms();
+        for (int c = 0; c < 8; c++) {
+            x.scene(1 + c % 3, c / 3, c % 2 * 3, 3 - c % 4);
+        }
+        for (int n = 0; n < 16; n++) {
+            x.net(n % 6, (n + 1 + n / 6) % 6);
+            x.guard(n, n % 2, 3 - n % 4);
+            x.lift(n, 1 + n % 3);
+        }
+        for (int r = 0; r < 6; r++) {
+            x.room(r, 3 - r % 3);
+            x.keep(r, 9 - r, 1 + r % 3);
+            for (int other = 0; other < r; other++) {
+                x.near(r, other, 1);
+            }
+        }
+        for (int k = 0; k < 40; k++) {
+            x.step(k % 5, k % 4, k % 3);
+        }
+        for (int i = 0; i < 24; i++) {
+            x.key("scene 1 2 3 3 keep 1 2 3".charAt(i));
+        }
+        x.anew();
+        x.blank();
+        return x;
     }
 }

@@ -200,7 +200,8 @@ final class SentencesOfScripts {
             GUARDED,
             "room(2, 1) = 0; room(3, 2) = 0; keep(1, 1, 0) = 0; step(4, 1, 1) = 1; judge(0, ..) = NONE NONE NONE 1 53 2 1;",
             "keep(1, 0, 0) = 1; judge(0, ..) = NONE NONE NONE 1 55 0 1; step(4, 2, 1) = 2;",
-            "judge(0, ..) = NONE NONE NONE 2 63 0 1; keep(3, 9, 0) = 0; judge(0, ..) = NONE NONE NONE 2 55 8 1");
+            "judge(0, ..) = NONE NONE NONE 2 63 0 1; keep(3, 9, 0) = 0; judge(0, ..) = NONE NONE NONE 2 55 8 1; wipe() = 2;",
+            "step(4, 1, 1) = 1; judge(3, ..) = NONE NONE NONE 2 63 0 1; keep(2, 1, 0) = 0; judge(3, 4) = 59");
         s.says(21, wakes,
             "room(1, 1) = 0; keep(1, 1, 0) = 0; scene(1, 0, 0, 0) = 0; scene(1, 1, 0, 0) = 1; scene(1, 3, 0, 0) = 2;",
             "step(4, 1, 1) = 1; step(4, 1, 3) = 2; judge(0, ..) = NONE NONE NONE 2 61 2 0; keep(1, 0, 0) = 1;",

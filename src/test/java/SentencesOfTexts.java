@@ -196,7 +196,8 @@ final class SentencesOfTexts {
             "'net 2 4' = 1000; many(4) = 0; ofNet(0, 0) = 2; ofNet(0, 1) = 4; 'scene 3 1 2 0' = 1000; many(4) = 0;",
             "levelIn(0, 0) = 3; levelIn(0, 1) = 1; levelIn(0, 2) = 2; levelIn(0, 3) = 0; 'guard 0 1 2' = 1001;",
             "many(4) = 0; ofNet(0, 2) = 1; ofNet(0, 3) = 2; 'lift 0 3' = 1000; many(4) = 0; ofNet(0, 4) = 3;",
-            "'keep 2 9 1' = 1000; many(4) = 0; ofRoom(2, 1) = 9; ofRoom(2, 2) = 1; line() = -100");
+            "'keep 2 9 1' = 1000; many(4) = 0; ofRoom(2, 1) = 9; ofRoom(2, 2) = 1; line() = -100; 'scene 3 0 1 2' = 1001;",
+            "levelIn(1, 0) = 3; levelIn(1, 1) = 0; levelIn(1, 2) = 1; levelIn(1, 3) = 2; levelIn(0, 3) = 0");
         s.says(26, carries,
             LONGEST, "key(48) = 17; line() = 1000; many(4) = 0; levelIn(0, 0) = 1; levelIn(0, 1) = 2; levelIn(0, 2) = 3;",
             "levelIn(0, 3) = 0; line() = -100; many(0) = 1");
