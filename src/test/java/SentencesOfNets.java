@@ -269,6 +269,10 @@ final class SentencesOfNets {
             "ofNet(0, 2) = 0; ofNet(0, 3) = 2; ofNet(1, 2) = 1; ofNet(1, 3) = 2; ofNet(2, 2) = 0; ofNet(2, 3) = 2;",
             "mend() = 0; scene(3, 0, 0, 3) = 1; mend() = 0; room(2, 3) = 2; mend() = 3; ofNet(0..2, 3) = 0;",
             "scene(1, 0, 0, 3) = 2; mend() = 3; ofNet(0..2, 3) = 3; ofNet(0, 2) = 0; ofNet(1, 2) = 1; many(5) = 0");
+        s.says(16, "a net that needs a guard gets one with the value that its guard had (0 if it had none), fed by its feed",
+            A_TO_B, "scene(1, 0, 2, 0) = 0; guard(0, 1, 0) = 1; open(0) = 1; mend() = 1; ofNet(0, 2) = 0; ofNet(0, 3) = 2;",
+            "guard(0, 1, 2) = 1; mend() = 0; ofNet(0, 2) = 1; room(1, 2) = 1; mend() = 1; ofNet(0, 2) = NONE;",
+            "room(1, 1) = 2; mend() = 1; ofNet(0, 2) = 0; ofNet(0, 3) = 2");
         s.says(16, "other nets have no guard after that",
             A_TO_B,
             "net(2, 1) = 1; guard(0..1, 1, 0) = 1; mend() = 2; many(2) = 0; ofNet(0..1, 2) = NONE; ofNet(0..1, 3) = NONE;",
@@ -284,6 +288,10 @@ final class SentencesOfNets {
             "many(2) = 16; mend() = 0; open(0) = 1; lift(15, 3) = 0; guard(7, 1, 0) = 1; mend() = 2; ofNet(7, 2) = 1;",
             "guard(3, 0, 1) = 1; lift(3, 1) = 0; mend() = 1; open(5) = 1; guard(5, 0, 0) = 1; mend() = 0; room(1, 0) = 1;",
             "mend() = 16; many(2) = 0");
+        s.says(16, "Returns the number of nets that become different by this.",
+            A_TO_B, "net(1, 2) = 1; scene(1, 0, 2, 0) = 0; mend() = 2; guard(0, 0, 0) = 1; mend() = 1; ofNet(0, 3) = 2;",
+            "guard(1, 1, 3) = 1; mend() = 1; ofNet(1, 2) = 1; ofNet(1, 3) = 2; guard(0, 1, 2) = 1; mend() = 0;",
+            "ofNet(0, 2) = 1; lift(0, 1) = 0; mend() = 1; guard(0, 0, 0) = 1; lift(0, 2) = 0; mend() = 1");
     }
 
     private void p17Way() {

@@ -14,6 +14,10 @@ final class SentencesOfScripts {
     private static final String ON_AND_OFF = "scene(1, 0, 0, 0) = 0; scene(1, 1, 0, 0) = 1; scene(1, 1, 2, 0) = 2;"
         + "scene(1, 1, 2, 3) = 3; scene(1, 0, 2, 3) = 4; room(1, 1) = 0; room(2, 1) = 0;";
 
+    /** The strides from 0 to 3 switch supply 1 off and on again. */
+    private static final String OFF_AND_ON = "scene(1, 1, 1, 0) = 0; scene(1, 0, 1, 0) = 1; scene(1, 0, 2, 0) = 2;"
+        + "scene(1, 2, 2, 0) = 3; room(1, 1) = 0;";
+
     /** The plan from 0 to 4 holds and frees 16 nets, saves and restores two rooms, and has four levels: 40 steps. */
     private static final String LONG_PLAN = "scene(1, 1, 1, 0) = 0; scene(1, 0, 1, 0) = 1; scene(1, 0, 2, 0) = 2;"
         + "scene(1, 2, 2, 0) = 3; scene(2, 2, 2, 0) = 4; scene(3, 3, 3, 3) = 5; room(1..3, 1) = 0; keep(1..2, 1, 0) = 0;"
@@ -139,6 +143,9 @@ final class SentencesOfScripts {
             "judge(1, ..) = 0 2 NONE 1 63 0 0; judge(2, ..) = NONE NONE NONE 2 63 2 0; judge(3, ..) = 0 2 NONE 3 61 2 1;",
             "keep(1, 9, 1) = 9; judge(1, ..) = NONE NONE NONE 1 63 2 0");
         s.says(21, save,
+            GUARDED, "keep(1, 1, 0) = 0; step(2, 1, 0) = 1; step(2, 1, 0) = 2; judge(1, ..) = NONE NONE NONE 1 63 2 0;",
+            "judge(2, ..) = NONE NONE NONE 2 63 2 0; keep(1, 1, 2) = 1; judge(1, ..) = 0 2 NONE 1 63 0 0");
+        s.says(21, save,
             GUARDED, "keep(1, 1, 0) = 0; step(4, 1, 1) = 1; step(2, 1, 0) = 2; judge(0, ..) = 1 2 NONE 1 61 2 1;",
             "judge(1, ..) = NONE NONE NONE 1 63 2 0; keep(1, 1, 2) = 1; judge(0, ..) = 1 2 NONE 1 61 0 1;",
             "keep(1, 0, 0) = 1; judge(0, ..) = 1 2 NONE 1 63 0 1; wipe() = 2; step(2, 5, 0) = 1; judge(0, 1) = 2;",
@@ -172,6 +179,10 @@ final class SentencesOfScripts {
             "step(1, 0, 0) = 4; judge(1, 6) = 0; judge(1, 0) = NONE; net(1, 0) = 1..15; guard(15, 0, 0) = 1;",
             "step(0, 15, 0) = 5; judge(1, 6) = 32768; step(0, 0, 0) = 6; judge(1, 6) = 32769; judge(1, 0) = NONE;",
             "step(1, 15, 0) = 7; judge(1, ..) = NONE NONE NONE 1 63 0 1");
+        s.says(21, "hold and free make the net held or not held",
+            SLEEPER, "guard(0, 0, 2) = 1; step(0, 0, 0) = 1; step(4, 2, 0) = 2; judge(2, ..) = NONE NONE NONE 1 63 0 1;",
+            "wipe() = 2; step(4, 1, 1) = 1; judge(0, ..) = NONE NONE NONE 1 63 0 1; wipe() = 1; room(0, 1) = 0;",
+            "step(4, 1, 0) = 1; judge(1, ..) = NONE NONE NONE 0 60 0 0");
         s.says(21, "save makes the room saved",
             SLEEPER, "keep(0..5, 1, 0) = 0; step(2, 0, 0) = 1; judge(1, 5) = 1; step(2, 5, 0) = 2; judge(1, 5) = 33;",
             "step(2, 5, 0) = 3; judge(1, ..) = NONE NONE NONE 1 63 33 0");
@@ -195,6 +206,9 @@ final class SentencesOfScripts {
             "room(0..5, 3) = 0; scene(1, 0, 0, 3) = 0; scene(1, 0, 0, 1) = 1; scene(1, 0, 0, 0) = 2; keep(0..5, 1, 0) = 0;",
             "step(4, 3, 1) = 1; judge(0, 4) = 63; step(4, 3, 0) = 2; judge(0, ..) = NONE NONE NONE 2 0 0 0;",
             "step(4, 3, 0) = 3; judge(0, ..) = NONE NONE NONE 2 0 0 0; judge(2, ..) = NONE NONE NONE 2 0 63 0");
+        s.says(21, "if it is 0 after that, all rooms that are fed by this supply are not ready any more",
+            "room(1..2, 1) = 0; keep(2, 1, 1) = 0; scene(1, 1, 0, 0) = 0; scene(1, 0, 0, 0) = 1; step(4, 1, 0) = 1;",
+            "judge(0, ..) = NONE NONE NONE 1 57 0 0; keep(1..2, 0, 0) = 0..1; judge(0, ..) = NONE NONE NONE 1 57 0 0");
         String wakes = "if it was 0 before, but is not after that, all rooms that are fed by it and have no registers are ready.";
         s.says(21, wakes,
             GUARDED,
@@ -219,6 +233,11 @@ final class SentencesOfScripts {
             SLEEPER,
             "judge(0, 0) = NONE; step(4, 2, 1) = 1; judge(0, ..) = 0 5 0 3 61 0 0; wipe() = 1; step(4, 1, 2) = 1;",
             "judge(0, ..) = 0 4 NONE 0 61 0 0; wipe() = 1; step(3, 1, 0) = 1; judge(0, 1) = 3");
+        s.says(21, first,
+            SLEEPER, "net(2, 0) = 1; guard(1, 0, 0) = 1; keep(5, 1, 0) = 0; step(0, 1, 0) = 1;",
+            "judge(0, ..) = 0 5 0 0 61 0 2; wipe() = 1; step(1, 1, 0) = 1; judge(0, ..) = 0 5 0 0 61 0 0; wipe() = 1;",
+            "step(2, 5, 0) = 1; judge(0, ..) = 0 5 0 0 61 32 0; wipe() = 1; step(4, 3, 0) = 1;",
+            "judge(0, ..) = 0 5 0 0 61 0 0; judge(1, ..) = NONE NONE NONE 1 63 0 0");
         String sleeps = "a net goes to a room that is on, and comes from one that is off, and it is not held, or has a guard whose supply has level 0.";
         s.says(21, sleeps,
             SLEEPER,
@@ -292,6 +311,18 @@ final class SentencesOfScripts {
             ON_AND_OFF, "keep(1, 1, 2) = 0; plan(0, 4) = 4; steps = 4 1 1, 4 2 2, 4 3 3, 4 1 0; net(1, 0) = 0;",
             "judge(0, ..) = 0 6 0 1 61 0 0; plan(0, 4) = 4; plan(4, 0) = 5; steps = 4 1 1, 3 1 0, 4 3 0, 4 2 0, 4 1 0;",
             "keep(1, 1, 0) = 1; plan(4, 0) = 6; steps = 4 1 1, 3 1 0, 4 3 0, 4 2 0, 2 1 0, 4 1 0");
+        s.says(23, then,
+            OFF_AND_ON, "keep(1, 1, 0) = 0; net(1, 0) = 0; guard(0, 0, 0) = 1; plan(0, 3) = 7;",
+            "steps = 0 0 0, 2 1 0, 4 1 0, 4 2 2, 4 1 2, 3 1 0, 1 0 0; judge(0, ..) = NONE NONE NONE 3 63 2 0");
+        s.says(23, then,
+            "room(1, 1) = 0; keep(1, 1, 2) = 0; scene(1, 1, 1, 0) = 0; scene(1, 0, 1, 0) = 1; scene(1, 0, 0, 0) = 2;",
+            "scene(1, 2, 0, 0) = 3; plan(0, 1) = 2; steps = 2 1 0, 4 1 0; plan(0, 3) = 4; steps = 2 1 0, 4 1 0, 4 2 0, 4 1 2;",
+            "judge(0, ..) = NONE NONE NONE 3 61 0 0");
+        s.says(23, then,
+            "room(1, 1) = 0; keep(1, 1, 2) = 0; scene(1, 1, 0, 0) = 0; scene(1, 0, 0, 0) = 1; scene(1, 0, 1, 0) = 2;",
+            "scene(1, 2, 1, 0) = 3; scene(2, 2, 1, 0) = 4; scene(2, 2, 1, 1) = 5; scene(2, 0, 1, 1) = 6; plan(5, 6) = 2;",
+            "steps = 2 1 0, 4 1 0; plan(0, 6) = 6; steps = 4 1 0, 4 2 1, 4 1 2, 4 0 2, 4 3 1, 4 1 0;",
+            "judge(0, ..) = NONE NONE NONE 6 61 0 0");
         s.says(23, "For each scene b of the strides but the first, where a is the one before it, and s the supply that differs",
             GUARDED, "plan(0, 0) = 0; many(3) = 0; plan(0, 3) = 1; steps = 4 2 1; plan(2, 3) = 2; steps = 0 0 0, 4 1 0;",
             "plan(2, 0) = 3; steps = 4 2 0, 0 0 0, 4 1 0; plan(0, 2) = 3; steps = 4 1 1, 1 0 0, 4 2 1;",
@@ -305,6 +336,10 @@ final class SentencesOfScripts {
             "plan(1, 0) = 1; steps = 4 1 0; guard(0, 0, 0) = 1; guard(2..5, 1, 3) = 1; plan(1, 0) = 3;",
             "steps = 0 0 0, 0 5 0, 4 1 0; plan(2, 3) = 4; steps = 0 0 0, 0 4 0, 0 5 0, 4 1 0; guard(1, 0, 0) = 1;",
             "plan(1, 0) = 4; steps = 0 0 0, 0 1 0, 0 5 0, 4 1 0; plan(3, 0) = 1; steps = 4 2 0");
+        s.says(23, "comes from a room fed by s, and goes to a room that is on in b",
+            GUARDED, "net(0, 2) = 1; guard(1, 0, 0) = 1; plan(1, 0) = 2; steps = 0 0 0, 4 1 0; plan(2, 3) = 2;",
+            "steps = 0 0 0, 4 1 0; room(0, 2) = 0; plan(2, 3) = 2; steps = 0 0 0, 4 1 0; plan(3, 0) = 2;",
+            "steps = 0 1 0, 4 2 0; plan(1, 0) = 1; steps = 4 1 0");
         s.says(23, "then save, in ascending order, each room fed by s that is ready, has registers, and whose keeper has a level greater than 0 in b",
             SLEEPER,
             "room(0, 1) = 0; room(5, 1) = 0; keep(0..5, 1, 0) = 0; plan(1, 0) = 4; steps = 2 0 0, 2 1 0, 2 5 0, 4 1 0;",
@@ -336,6 +371,10 @@ final class SentencesOfScripts {
             "keep(1, 0, 0) = 1; plan(0, 1) = 3; steps = 4 1 1, 3 0 0, 3 5 0; keep(0, 1, 2) = 1; plan(0, 1) = 2;",
             "steps = 4 1 1, 3 5 0; plan(3, 2) = 3; steps = 4 1 1, 3 0 0, 3 5 0; plan(3, 1) = 3;",
             "steps = 4 2 0, 4 1 1, 3 5 0; keep(5, 1, 1) = 1; plan(0, 1) = 1; steps = 4 1 1; plan(0, 3) = 1; steps = 4 2 1");
+        s.says(23, "then restore, in ascending order, each room fed by s that has registers and is saved",
+            SLEEPER, "room(2, 3) = 0; keep(1..2, 1, 0) = 0; judge(0, 5) = 6; plan(0, 1) = 2; steps = 4 1 1, 3 1 0;",
+            "plan(0, 3) = 1; steps = 4 2 1; room(2, 2) = 3; plan(0, 3) = 2; steps = 4 2 1, 3 2 0; plan(0, 2) = 4;",
+            "steps = 4 1 1, 3 1 0, 4 2 1, 3 2 0");
         s.says(23, "then free, in ascending order, each net that is held and comes from a room fed by s.",
             SLEEPER,
             "room(2, 1) = 0; room(3, 2) = 0; net(1, 2) = 1; net(0, 1) = 2; net(3, 0) = 3; net(2, 0) = 4; net(1, 0) = 5;",
@@ -343,10 +382,22 @@ final class SentencesOfScripts {
             "judge(0, ..) = 0 6 0 1 53 2 26; plan(0, 3) = 2; steps = 4 2 1, 1 3 0; plan(0, 2) = 6;",
             "steps = 4 1 1, 3 1 0, 1 1 0, 1 4 0, 4 2 1, 1 3 0; guard(0, 1, 3) = 1; plan(0, 1) = 5;",
             "steps = 4 1 1, 3 1 0, 1 0 0, 1 1 0, 1 4 0");
+        s.says(23, "then free, in ascending order, each net that is held and comes from a room fed by s.",
+            OFF_AND_ON, "room(2, 1) = 0; net(1, 2) = 0; net(1, 0) = 1; guard(0..1, 0, 0) = 1; plan(0, 3) = 5;",
+            "steps = 0 1 0, 4 1 0, 4 2 2, 4 1 2, 1 1 0; plan(1, 3) = 4; steps = 4 2 2, 4 1 2, 1 0 0, 1 1 0");
+        s.says(23, "then free, in ascending order, each net that is held and comes from a room fed by s.",
+            SLEEPER, "room(3, 2) = 0; net(1, 3) = 1; guard(1, 0, 0) = 1; plan(0, 1) = 2; steps = 4 1 1, 1 1 0;",
+            "guard(0, 0, 0) = 1; open(1) = 1; keep(1, 1, 2) = 0; plan(0, 1) = 2; steps = 4 1 1, 1 0 0;",
+            "judge(0, ..) = 1 6 0 1 53 0 0");
         s.says(23, "Otherwise set the level of s only.",
             GUARDED, "keep(0..5, 1, 0) = 0; scene(1, 3, 0, 0) = 4; scene(3, 3, 0, 0) = 5; plan(1, 4) = 1; steps = 4 1 3;",
             "plan(4, 1) = 1; steps = 4 1 1; plan(4, 5) = 1; steps = 4 0 3; plan(5, 4) = 1; steps = 4 0 1; plan(5, 1) = 2;",
             "steps = 4 0 1, 4 1 1");
+        s.says(23, "Otherwise set the level of s only.",
+            "room(1, 1) = 0; keep(1, 1, 0) = 0; net(1, 0) = 0; guard(0, 0, 0) = 1; scene(1, 0, 0, 0) = 0;",
+            "scene(1, 1, 0, 0) = 1; scene(1, 1, 1, 0) = 2; scene(1, 3, 1, 0) = 3; plan(0, 3) = 5;",
+            "steps = 4 1 1, 3 1 0, 1 0 0, 4 2 1, 4 1 3; judge(0, ..) = NONE NONE NONE 3 63 2 0; plan(3, 0) = 5;",
+            "steps = 4 1 1, 4 2 0, 0 0 0, 2 1 0, 4 1 0; judge(3, ..) = NONE NONE NONE 0 61 2 1");
     }
 
     private void p18Step() {
@@ -365,7 +416,7 @@ final class SentencesOfScripts {
             "step(3, 15, 0) = OUTSIDE; many(3) = 16");
         s.says(18, "`y`: 0 to 3 for kind 4",
             "step(4, 3, 0..3) = 1..4; stepAt(0..3, 2) = 0..3; step(4, 0, !0..3) = OUTSIDE; step(4, 3, !0..3) = OUTSIDE;",
-            "many(3) = 4");
+            "many(3) = 4; step(4, 0, 0..3) = 5..8; stepAt(4..7, 2) = 0..3");
         s.says(18, "any value for the others, which is taken as 0",
             "step(0, 0, !0..0) = 1..23; wipe() = 23; step(1, 0, MIN) = 1; step(1, 0, MAX) = 2; step(2, 0, MIN) = 3;",
             "step(2, 0, MAX) = 4; step(3, 0, MIN) = 5; step(3, 0, MAX) = 6; step(0, 0, -1) = 7; step(0, 0, 3) = 8;",
@@ -456,7 +507,8 @@ final class SentencesOfScripts {
             SLEEPER,
             "judge(2, 3) = 2; step(4, 1, 0) = 1; judge(2, ..) = 0 5 0 3 61 0 0; step(4, 2, 0) = 2; judge(2, 3) = 3;",
             "wipe() = 2; keep(1, 1, 0) = 0; step(4, 1, 1) = 1; judge(0, ..) = 0 6 0 1 61 2 0; wipe() = 1;",
-            "step(4, 1, 3) = 1; judge(1, ..) = 0 4 NONE 1 63 0 0");
+            "step(4, 1, 3) = 1; judge(1, ..) = 0 4 NONE 1 63 0 0; wipe() = 1; scene(1, 1, 0, 2) = 4; step(4, 3, 2) = 1;",
+            "judge(1, ..) = NONE NONE NONE 4 63 0 0; judge(4, 3) = 4");
         s.says(21, "4: the set of the rooms that are ready",
             GUARDED,
             "judge(0, 4) = 61; judge(1, 4) = 63; step(4, 1, 1) = 1; judge(0, 4) = 63; keep(1, 1, 0) = 0; judge(0, 4) = 61;",

@@ -201,6 +201,10 @@ final class SentencesOfTexts {
         s.says(26, carries,
             LONGEST, "key(48) = 17; line() = 1000; many(4) = 0; levelIn(0, 0) = 1; levelIn(0, 1) = 2; levelIn(0, 2) = 3;",
             "levelIn(0, 3) = 0; line() = -100; many(0) = 1");
+        s.says(26, carries,
+            "'near 2 4 1' = 1000; 'near 2 4 0' = 1001; ofRoom(2, 3) = 0; 'near 4 4 0' = 997; many(4) = 0; line() = -100;",
+            "'net 3 3' = 997; many(4) = 0; line() = -100; 'lift 0 1' = 999; many(4) = 0; line() = -100; 'guard 0 0 0' = 999;",
+            "many(4) = 0; 'scene 0 0 0 0' = 997; many(4) = 0; key(110) = 1; line() = -101; many(0..2) = 0");
         String nothing = "-100 minus the fault if the tape is no line (nothing is done then, and the tape stays).";
         s.says(26, nothing,
             "line() = -100; 'room 1 4' = -107; many(4) = 8; line() = -107; many(4) = 8; ofRoom(1, 0) = 0; key(48) = 9;",
