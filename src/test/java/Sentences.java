@@ -10,6 +10,7 @@ final class Sentences {
 
     private final Calls calls;
     private final Document document;
+    private List<String> lastRun = List.of();
 
     Sentences(Calls calls, Document document) {
         this.calls = calls;
@@ -30,15 +31,58 @@ final class Sentences {
         }
         calls.holds(name + " has " + count + " calls, too many", count + Twins.COST_OF_A_LOOK <= CALLS_OF_AN_OBJECT);
         made(new SleepingRooms(), name, texts);
+        made(almostUsedUp(count), name + ", up to the 512th call", texts);
         if (count + COST_OF_USE <= CALLS_OF_AN_OBJECT) {
             made(usedAndMadeAnew(), name + ", after anew (promise 10)", texts);
         }
+        besideTheLastRun(name, texts);
         Twins.compare(calls, name, run);
     }
 
     private void made(SleepingRooms x, String name, List<String> texts) {
         for (String text : texts) {
             calls.on(x, name, text);
+        }
+    }
+
+    /** Two objects that are used by turns must not touch one another. */
+    private void besideTheLastRun(String name, List<String> texts) {
+        SleepingRooms x = new SleepingRooms();
+        SleepingRooms other = new SleepingRooms();
+        for (int i = 0; i < Math.max(texts.size(), lastRun.size()); i++) {
+            if (i < lastRun.size()) {
+                calls.on(other, name + ", beside it the run before (promise 1)", lastRun.get(i));
+            }
+            if (i < texts.size()) {
+                calls.on(x, name + ", beside another object (promise 1)", texts.get(i));
+            }
+        }
+        lastRun = texts;
+    }
+
+    /** An object that has got calls that leave it as it was made, and has as many left as the run needs. */
+    private static SleepingRooms almostUsedUp(int left) {
+        SleepingRooms x = new SleepingRooms();
+        for (int i = 0; i < CALLS_OF_AN_OBJECT - left; i++) {
+            changeNothing(x, i % 12);
+        }
+        return x;
+    }
+
+    private static void changeNothing(SleepingRooms x, int kind) {
+        switch (kind) {
+            case 0: x.room(0, 4); break;
+            case 1: x.near(5, 5, 1); break;
+            case 2: x.scene(0, 1, 2, 3); break;
+            case 3: x.key(128); break;
+            case 4: x.line(); break;
+            case 5: x.way(0, 5, SleepingRooms.NONE); break;
+            case 6: x.mend(); break;
+            case 7: x.plan(0, 0); break;
+            case 8: x.wipe(); break;
+            case 9: x.anew(); break;
+            case 10: x.blank(); break;
+            default: x.many(5); break;
         }
     }
 

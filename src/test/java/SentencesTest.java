@@ -1,12 +1,12 @@
 import java.io.IOException;
-import java.nio.file.Path;
 
 /** Every sentence of the document has a test that quotes it, with its promise's number. */
 public final class SentencesTest {
     public static void main(String[] args) throws IOException {
         Calls calls = new Calls("SentencesTest");
-        Document document = new Document(Path.of("../shared/DOC.md"));
+        Document document = Document.shared();
         Sentences sentences = new Sentences(calls, document);
+        SentencesOfTheWhole.tell(sentences);
         SentencesOfTheChip.tell(sentences);
         SentencesOfNets.tell(sentences);
         SentencesOfScripts.tell(sentences);
