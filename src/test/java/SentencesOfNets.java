@@ -117,6 +117,9 @@ final class SentencesOfNets {
             "room(2, 3) = 0; net(1, 2) = 0; scene(2, 2, 1, 1) = 0; ofNet(0, 7) = 2; scene(2, 1, 1, 0) = 1; ofNet(0, 7) = 2;",
             "scene(1, 1, 2, 1) = 2; ofNet(0, 7) = 3; anew() = 1; room(2, 3) = 0; net(1, 2) = 0; scene(1, 2, 2, 1) = 0;",
             "ofNet(0, 7) = 0; scene(3, 1, 1, 1) = 1; ofNet(0, 7) = 3");
+        s.says(13, "The feed of a net is the lowest supply that has, in each scene with b > 0, the level b.",
+            A_TO_B, "net(1, 2) = 1..15; scene(1, 0, 2, 0) = 0; ofNet(0..15, 7) = 2; mend() = 16; ofNet(0..15, 3) = 2;",
+            "room(2, 3) = 2; scene(1, 0, 2, 3) = 1; ofNet(0..15, 7) = 3; mend() = 16; ofNet(0..15, 3) = 3");
     }
 
     private void uselessParts() {

@@ -146,6 +146,10 @@ final class SentencesOfScripts {
             GUARDED, "keep(1, 1, 0) = 0; step(2, 1, 0) = 1; step(2, 1, 0) = 2; judge(1, ..) = NONE NONE NONE 1 63 2 0;",
             "judge(2, ..) = NONE NONE NONE 2 63 2 0; keep(1, 1, 2) = 1; judge(1, ..) = 0 2 NONE 1 63 0 0");
         s.says(21, save,
+            SLEEPER, "room(0, 3) = 0; room(2, 3) = 0; keep(5, 1, 0) = 0; step(2, 5, 0) = 1;",
+            "judge(1, ..) = NONE NONE NONE 1 58 32 0; keep(0..2, 1, 0) = 0; judge(1, ..) = NONE NONE NONE 1 58 37 0;",
+            "wipe() = 1; step(2, 0, 0) = 1; judge(1, 1) = 2; wipe() = 1; step(2, 2, 0) = 1; judge(1, 1) = 2");
+        s.says(21, save,
             GUARDED, "keep(1, 1, 0) = 0; step(4, 1, 1) = 1; step(2, 1, 0) = 2; judge(0, ..) = 1 2 NONE 1 61 2 1;",
             "judge(1, ..) = NONE NONE NONE 1 63 2 0; keep(1, 1, 2) = 1; judge(0, ..) = 1 2 NONE 1 61 0 1;",
             "keep(1, 0, 0) = 1; judge(0, ..) = 1 2 NONE 1 63 0 1; wipe() = 2; step(2, 5, 0) = 1; judge(0, 1) = 2;",
@@ -209,6 +213,11 @@ final class SentencesOfScripts {
         s.says(21, "if it is 0 after that, all rooms that are fed by this supply are not ready any more",
             "room(1..2, 1) = 0; keep(2, 1, 1) = 0; scene(1, 1, 0, 0) = 0; scene(1, 0, 0, 0) = 1; step(4, 1, 0) = 1;",
             "judge(0, ..) = NONE NONE NONE 1 57 0 0; keep(1..2, 0, 0) = 0..1; judge(0, ..) = NONE NONE NONE 1 57 0 0");
+        s.says(21, "if it is 0 after that",
+            "room(1, 1) = 0; keep(1, 1, 2) = 0; scene(1, 0, 1, 0) = 0; scene(1, 0, 2, 0) = 1; scene(1, 0, 0, 0) = 2;",
+            "scene(1, 3, 1, 0) = 3; scene(1, 1, 1, 0) = 4; step(4, 2, 2) = 1; judge(0, ..) = NONE NONE NONE 1 61 2 0;",
+            "step(4, 2, 0) = 2; judge(0, ..) = NONE NONE NONE 2 61 0 0; wipe() = 2; step(4, 1, 1) = 1;",
+            "judge(3, ..) = NONE NONE NONE 4 63 0 0; keep(1, 0, 0) = 1; judge(3, ..) = NONE NONE NONE 4 63 0 0");
         String wakes = "if it was 0 before, but is not after that, all rooms that are fed by it and have no registers are ready.";
         s.says(21, wakes,
             GUARDED,
@@ -340,6 +349,9 @@ final class SentencesOfScripts {
             GUARDED, "net(0, 2) = 1; guard(1, 0, 0) = 1; plan(1, 0) = 2; steps = 0 0 0, 4 1 0; plan(2, 3) = 2;",
             "steps = 0 0 0, 4 1 0; room(0, 2) = 0; plan(2, 3) = 2; steps = 0 0 0, 4 1 0; plan(3, 0) = 2;",
             "steps = 0 1 0, 4 2 0; plan(1, 0) = 1; steps = 4 1 0");
+        s.says(23, "each net that has a guard, is not held",
+            SLEEPER, "net(1, 0) = 1; net(1, 0) = 2; guard(2, 0, 0) = 1; room(2, 3) = 0; keep(2, 1, 0) = 0; judge(1, 5) = 4;",
+            "plan(1, 0) = 2; steps = 0 2 0, 4 1 0; judge(1, ..) = 1 5 0 0 57 4 4");
         s.says(23, "then save, in ascending order, each room fed by s that is ready, has registers, and whose keeper has a level greater than 0 in b",
             SLEEPER,
             "room(0, 1) = 0; room(5, 1) = 0; keep(0..5, 1, 0) = 0; plan(1, 0) = 4; steps = 2 0 0, 2 1 0, 2 5 0, 4 1 0;",
@@ -350,6 +362,10 @@ final class SentencesOfScripts {
             ON_AND_OFF,
             "keep(1, 1, 2) = 0; keep(2, 1, 0) = 0; plan(0, 4) = 6; steps = 4 1 1, 3 2 0, 4 2 2, 4 3 3, 2 2 0, 4 1 0;",
             "plan(3, 4) = 3; steps = 2 1 0, 2 2 0, 4 1 0");
+        s.says(23, "each room fed by s that is ready, has registers, and whose keeper has a level greater than 0 in b",
+            "room(1, 1) = 0; room(2, 3) = 0; keep(0..2, 1, 0) = 0; scene(1, 1, 0, 1) = 0; scene(1, 0, 0, 1) = 1;",
+            "scene(1, 1, 0, 0) = 2; plan(0, 1) = 2; steps = 2 1 0, 4 1 0; plan(0, 2) = 2; steps = 2 2 0, 4 3 0;",
+            "plan(1, 2) = 4; steps = 4 1 1, 3 1 0, 2 2 0, 4 3 0");
         s.says(23, "then set the level of s.",
             GUARDED,
             "keep(1, 1, 0) = 0; plan(1, 0) = 3; steps = 0 0 0, 2 1 0, 4 1 0; plan(2, 3) = 3; steps = 0 0 0, 2 1 0, 4 1 0;",

@@ -73,6 +73,10 @@ final class SentencesOfTexts {
             "'guard 02 01 03' = 1001; ofNet(2, 2) = 1; ofNet(2, 3) = 3; 'lift 00 02' = 1000; 'lift 01 00' = 1000;",
             "'lift 0 00' = 1002; 'near 00 05 01' = 1000; 'near 0 5 01' = 1001; 'near 05 0 00' = 1001;",
             "'keep 05 09 03' = 1000; 'keep 5 00 03' = 1009; 'scene 03 02 01 00' = 1000; 'scene 3 02 1 0' = 997");
+        s.says(26, form,
+            "net(0, 1) = 0..15; 'guard : 0 0' = -106; 'guard ? 0 0' = -106; 'guard / 0 0' = -106; 'lift : 1' = -105;",
+            "'lift ? 1' = -105; 'lift 0: 1' = -106; 'lift 0? 1' = -106; 'lift 1/ 1' = -106; 'lift 1: 1' = -106;",
+            "'guard a 0 0' = -106; 'lift A 0' = -105; many(2) = 0; ofNet(0..15, 4) = 0; 'lift 15 1' = 1000");
     }
 
     private void numbers() {

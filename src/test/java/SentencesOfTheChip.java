@@ -171,6 +171,9 @@ final class SentencesOfTheChip {
             "net(0, 3) = 0; net(5, 3) = 1; ofNet(0, 0) = 0; ofNet(1, 0) = 5; net(!0..5, 3) = UNKNOWN; many(1) = 2");
         s.says(4, "`b`: the room to which it goes",
             "net(3, 0) = 0; net(3, 5) = 1; ofNet(0, 1) = 0; ofNet(1, 1) = 5; net(3, !0..5) = UNKNOWN; many(1) = 2");
+        s.says(4, "`b`: the room to which it goes",
+            "net(1, 3) = 0..4; net(2, 4) = 5..9; net(4, 5) = 10..15; ofNet(0..4, 0) = 1; ofNet(0..4, 1) = 3;",
+            "ofNet(5..9, 0) = 2; ofNet(5..9, 1) = 4; ofNet(10..15, 0) = 4; ofNet(10..15, 1) = 5");
         s.says(4, "Returns the number of the net",
             "net(0, 1) = 0; net(1, 0) = 1; net(0, 1) = 2..15; anew() = 16; net(0, 1) = 0..15");
         s.says(4, "UNKNOWN if there is no such room (either one)",
