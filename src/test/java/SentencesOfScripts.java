@@ -381,6 +381,9 @@ final class SentencesOfScripts {
             GUARDED,
             "scene(1, 3, 0, 0) = 4; plan(0, 4) = 2; steps = 4 1 3, 1 0 0; plan(1, 4) = 1; steps = 4 1 3; plan(0, 1) = 2;",
             "steps = 4 1 1, 1 0 0");
+        s.says(23, "If the level of s is 0 in a",
+            "room(1, 1) = 0; keep(1, 1, 0) = 0; scene(1, 0, 0, 0) = 0; scene(1, 1, 0, 0) = 1; scene(1, 1, 0, 1) = 2;",
+            "scene(1, 2, 0, 1) = 3; plan(0, 3) = 4; steps = 4 1 1, 3 1 0, 4 3 1, 4 1 2; plan(1, 3) = 2; steps = 4 3 1, 4 1 2");
         s.says(23, "set the level of s; then restore, in ascending order, each room fed by s that has registers and is saved",
             SLEEPER,
             "room(0, 1) = 0; room(5, 1) = 0; keep(0..5, 1, 0) = 0; plan(0, 1) = 4; steps = 4 1 1, 3 0 0, 3 1 0, 3 5 0;",
